@@ -1079,9 +1079,9 @@ public final class AbelianPowers {
         private final int[] found = new int[MAX_TEMPLATES];
         private int foundSize;
 
-        private final Template template = new Template();
+        private final Template current = new Template();
         private final int[] adjugate = new int[MAX_LETTERS * MAX_LETTERS];
-        private int determinant;
+        private int divisor;
         private int builtLetters;
         /** The adjugate times the difference of the template whose parents are sought. */
         private final int[] base = new int[MAX_LETTERS];
@@ -1095,8 +1095,8 @@ public final class AbelianPowers {
 
         /** The template of a number that there is. */
         Template read(int i) {
-            template.readKey(remembered[i], letters);
-            return template;
+            current.readKey(remembered[i], letters);
+            return current;
         }
 
         /** Returns the number of templates, or LIMIT. */
@@ -1105,7 +1105,7 @@ public final class AbelianPowers {
             foundSize = 0;
             admit(Template.squareKey(builtLetters));
             for (int i = 0; i < foundSize && i < MAX_TEMPLATES; i++) {
-                template.readKey(found[i], builtLetters);
+                current.readKey(found[i], builtLetters);
                 if (!admitParents(setting)) {
                     return LIMIT;
                 }
@@ -1116,7 +1116,7 @@ public final class AbelianPowers {
 
         private void loadInverse(Matrix matrix) {
             builtLetters = matrix.size;
-            determinant = matrix.wholeMinor();
+            divisor = matrix.wholeMinor();
             for (int y = 0; y < MAX_LETTERS; y++) {
                 for (int x = 0; x < MAX_LETTERS; x++) {
                     boolean inside = x < builtLetters && y < builtLetters;
@@ -1136,9 +1136,9 @@ public final class AbelianPowers {
         /** Returns false if there are too many templates. */
         private boolean admitParents(Setting setting) {
             loadBase();
-            splits0.find(template.ends[0], setting, adjugate);
-            splits1.find(template.ends[1], setting, adjugate);
-            splits2.find(template.ends[2], setting, adjugate);
+            splits0.find(current.ends[0], setting, adjugate);
+            splits1.find(current.ends[1], setting, adjugate);
+            splits2.find(current.ends[2], setting, adjugate);
             for (int i = 0; i < splits0.size; i++) {
                 for (int j = 0; j < splits1.size; j++) {
                     for (int k = 0; k < splits2.size; k++) {
@@ -1156,22 +1156,22 @@ public final class AbelianPowers {
             for (int y = 0; y < MAX_LETTERS; y++) {
                 base[y] = 0;
                 for (int x = 0; x < MAX_LETTERS; x++) {
-                    base[y] += adjugate[MAX_LETTERS * y + x] * template.numbers[x];
+                    base[y] += adjugate[MAX_LETTERS * y + x] * current.numbers[x];
                 }
             }
         }
 
         /** The key of the parent that three splits give, negative if its numbers are not whole or out of range. */
         private int parentKey(int i, int j, int k) {
-            if (determinant == 0) {
+            if (divisor == 0) {
                 return -1;
             }
             int key = Template.keyOfEnds(splits0.ends[i], splits1.ends[j], splits2.ends[k]);
             for (int y = 0; y < builtLetters; y++) {
                 int sum = base[y] + splits0.gains[MAX_LETTERS * i + y] + splits1.gains[MAX_LETTERS * j + y]
                     + splits2.gains[MAX_LETTERS * k + y];
-                int number = sum / determinant;
-                if (number * determinant != sum || number < -MAX_NUMBER || number > MAX_NUMBER) {
+                int number = sum / divisor;
+                if (number * divisor != sum || number < -MAX_NUMBER || number > MAX_NUMBER) {
                     return -1;
                 }
                 key = Template.keyWithNumber(key, number);

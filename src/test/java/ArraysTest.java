@@ -30,7 +30,7 @@ public final class ArraysTest {
         Due.is("no array goes before a negative size", x.newArray(3, -1), -1);
         Due.is("the array stays", x.element(2, 40), 41);
         Due.is("newArray(2, 2)", x.newArray(2, 2), 1);
-        Due.is("its elements are 0", x.element(2, 1), 0);
+        elementsAre(x, 2, 0, 0);
         Due.is("it is shorter", x.element(2, 2), Long.MIN_VALUE);
         Due.is("newArray(2, 41) again", x.newArray(2, 41), 1);
         Due.is("all its elements are 0", x.element(2, 40), 0);

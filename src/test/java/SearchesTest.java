@@ -142,6 +142,11 @@ public final class SearchesTest {
         Due.is("equal 3 2", with("equal 3 2").longestFree(), -2);
         Due.is("mixed 2 2", with("mixed 2 2").longestFree(), 3);
         Due.is("additive 3 2", with("additive 3 2").longestFree(), 9);
+        AbelianPowers x = with("abelian 3 2");
+        Due.is("9 first", x.longestFree(), 9);
+        Due.problem(x, "abelian 2 3");
+        Due.is("then 7", x.longestFree(), 7);
+        Due.is("7 again", x.longestFree(), 7);
     }
 
     private static void searchesDependOnValues() {

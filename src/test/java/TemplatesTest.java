@@ -76,8 +76,11 @@ public final class TemplatesTest {
         isTemplate(x, 12, -1, 0, 1, -1, 0);
         isTemplate(x, 13, -1, 0, 1, 1, -1);
         isTemplate(x, 14, -1, 0, 1, 1, 0);
-        isTemplate(x, 112, 1, 1, 1, 0, 2);
+        isTemplate(x, 24, -1, 1, 1, 0, 1);
+        isTemplate(x, 25, 0, -1, -1, 0, 0);
+        isTemplate(x, 26, 0, -1, -1, 1, 0);
         isTemplate(x, 108, 1, 1, 1, 0, -2);
+        isTemplate(x, 112, 1, 1, 1, 0, 2);
     }
 
     private static void wrongNumbersOfTemplates() {
@@ -153,6 +156,10 @@ public final class TemplatesTest {
         Due.is("X1 a X2, X2 with an a more, in a", occurrence(x, "a", 6), -2);
         Due.is("X1 a X2 a, X2 with two a less, in aaaa", occurrence(x, "aaaa", 7), 200);
         Due.is("X1 a X2 b, X2 with an a more and a b less, in babaabb", occurrence(x, "babaabb", 13), 20101);
+        Due.is("a X1 X2, alike, in bba: both empty, behind the last letter", occurrence(x, "bba", 25), 20000);
+        Due.is("a X1 X2, alike, in bb", occurrence(x, "bb", 25), -2);
+        Due.is("a X1 X2, X2 with an a more, in baba", occurrence(x, "baba", 26), -2);
+        Due.is("a X1 X2, X2 with an a more, in babbaa", occurrence(x, "babbaa", 26), 10102);
         Due.is("b X1 b X2 b in bbbbb", occurrence(x, "bbbbb", 112), 2);
         Due.is("b X1 b X2 b in bbbb", occurrence(x, "bbbb", 112), -2);
         Due.is("b X1 b X2 b in abbabbabb", occurrence(x, "abbabbabb", 112), 20103);
