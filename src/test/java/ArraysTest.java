@@ -30,7 +30,7 @@ public final class ArraysTest {
         Due.is("no array goes before a negative size", x.newArray(3, -1), -1);
         Due.is("the array stays", x.element(2, 40), 41);
         Due.is("newArray(2, 2)", x.newArray(2, 2), 1);
-        elementsAre(x, 2, 0, 0);
+        Due.elementsAre(x, 2, 0, 0);
         Due.is("it is shorter", x.element(2, 2), Long.MIN_VALUE);
         Due.is("newArray(2, 41) again", x.newArray(2, 41), 1);
         Due.is("all its elements are 0", x.element(2, 40), 0);
@@ -64,12 +64,6 @@ public final class ArraysTest {
         Due.is("the other array is its own", x.element(1, 2), 0);
     }
 
-    private static void elementsAre(AbelianPowers x, int array, long... due) {
-        for (int i = 0; i < due.length; i++) {
-            Due.is("element(" + array + ", " + i + ")", x.element(array, i), due[i]);
-        }
-    }
-
     /** Promise 31. */
     private static void sumsOfPrefixes() {
         AbelianPowers x = new AbelianPowers();
@@ -79,13 +73,13 @@ public final class ArraysTest {
             x.setElement(1, i, 100 + i);
         }
         Due.is("prefixSums(1, 0)", x.prefixSums(1, 0), 5);
-        elementsAre(x, 1, 0, 2, 2, 3, 5, 105, 106);
+        Due.elementsAre(x, 1, 0, 2, 2, 3, 5, 105, 106);
         x.setValue(2, -9);
         x.setValue(0, 4);
         Due.is("prefixSums(1, 0) with other values", x.prefixSums(1, 0), 5);
-        elementsAre(x, 1, 0, -9, -5, -4, -13, 105, 106);
+        Due.elementsAre(x, 1, 0, -9, -5, -4, -13, 105, 106);
         Due.is("prefixSums of an empty word", x.prefixSums(1, 1), 1);
-        elementsAre(x, 1, 0, -9);
+        Due.elementsAre(x, 1, 0, -9);
         for (int i = 0; i < 40; i++) {
             x.append(2, 2);
         }
@@ -94,7 +88,7 @@ public final class ArraysTest {
         Due.is("element(0, 40)", x.element(0, 40), -360);
         Due.problem(x, "equal 2 3");
         Due.is("the kind does not matter", x.prefixSums(1, 0), 5);
-        elementsAre(x, 1, 0, -9, -5, -4, -13, 105);
+        Due.elementsAre(x, 1, 0, -9, -5, -4, -13, 105);
     }
 
     private static void errorsOfPrefixSums() {
@@ -111,10 +105,10 @@ public final class ArraysTest {
         x.setElement(0, 3, 9);
         Due.word(x, 0, "bbbb");
         Due.is("no room for the whole word", x.prefixSums(0, 0), -13);
-        elementsAre(x, 0, 8, 0, 0, 9);
+        Due.elementsAre(x, 0, 8, 0, 0, 9);
         Due.word(x, 0, "bbb");
         Due.is("just enough room", x.prefixSums(0, 0), 4);
-        elementsAre(x, 0, 0, 1, 2, 3);
+        Due.elementsAre(x, 0, 0, 1, 2, 3);
     }
 
     /** Promises 32 and 33. */

@@ -17,53 +17,56 @@ public final class ClosureTest {
                 images.add(image.toString());
             }
         }
-        AbelianPowers real = null;
         int number = 0;
         for (String a : images) {
             for (String b : images) {
-                // An object is used for at most 512 calls; a new one for each morphism is simplest.
-                real = new AbelianPowers();
-                compare(real, new NaivePowers(), a, b, number++ % 10 == 0);
+                compare(a, b, number++ % 10 == 0);
             }
         }
         Due.end();
     }
 
-    private static void compare(AbelianPowers real, NaivePowers naive, String a, String b, boolean withWords) {
-        feed(real, naive, "abelian 2 2");
-        Due.is("parseProblem()", real.parseProblem(), naive.parseProblem());
-        feed(real, naive, "a:" + a);
-        Due.is("parseImage()", real.parseImage(), naive.parseImage());
-        feed(real, naive, "b:" + b);
-        Due.is("parseImage()", real.parseImage(), naive.parseImage());
+    private static AbelianPowers made(String a, String b) {
+        AbelianPowers real = Due.withMorphism(2, a, b);
+        real.computeClosure();
+        return real;
+    }
+
+    private static NaivePowers naive(String a, String b) {
+        NaivePowers naive = new NaivePowers();
+        "abelian 2 2".chars().forEach(naive::feed);
+        naive.parseProblem();
+        for (String image : new String[] {"a:" + a, "b:" + b}) {
+            image.chars().forEach(naive::feed);
+            naive.parseImage();
+        }
+        return naive;
+    }
+
+    private static void compare(String a, String b, boolean withWords) {
+        NaivePowers naive = naive(a, b);
+        AbelianPowers real = Due.withMorphism(2, a, b);
         String name = " of " + a + ", " + b;
         Due.is("determinant()" + name, real.determinant(), naive.determinant());
         int size = naive.computeClosure();
         Due.is("computeClosure()" + name, real.computeClosure(), size);
         for (int i = 0; i <= size; i++) {
+            // An object is used for at most 512 calls.
+            real = i % 70 == 0 ? made(a, b) : real;
             for (int what = 0; what <= 5; what++) {
                 Due.is("template(" + i + ", " + what + ")" + name, real.template(i, what), naive.template(i, what));
             }
         }
-        if (withWords) compareOccurrences(real, naive, size, name);
-    }
-
-    private static void compareOccurrences(AbelianPowers real, NaivePowers naive, int size, String name) {
-        for (int word = 0; word < WORDS.length; word++) {
-            for (char c : WORDS[word].toCharArray()) {
-                real.append(word, c - 'a');
-                naive.append(word, c - 'a');
-            }
-            for (int i = 0; i <= size; i++) {
-                Due.is("occurrence(" + word + ", " + i + ")" + name, real.occurrence(word, i), naive.occurrence(word, i));
-            }
+        for (int word = 0; word < WORDS.length && withWords; word++) {
+            compareOccurrences(made(a, b), naive, word, size, name);
         }
     }
 
-    private static void feed(AbelianPowers real, NaivePowers naive, String text) {
-        for (char c : text.toCharArray()) {
-            real.feed(c);
-            naive.feed(c);
+    private static void compareOccurrences(AbelianPowers real, NaivePowers naive, int word, int size, String name) {
+        Due.word(real, word, WORDS[word]);
+        WORDS[word].chars().forEach(c -> naive.append(word, c - 'a'));
+        for (int i = 0; i <= size; i++) {
+            Due.is("occurrence(" + word + ", " + i + ")" + name, real.occurrence(word, i), naive.occurrence(word, i));
         }
     }
 }

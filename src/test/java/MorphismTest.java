@@ -14,15 +14,6 @@ public final class MorphismTest {
         Due.end();
     }
 
-    private static AbelianPowers with(int letters, String... images) {
-        AbelianPowers x = new AbelianPowers();
-        Due.problem(x, "abelian 2 " + letters);
-        for (int i = 0; i < images.length; i++) {
-            Due.image(x, (char) ('a' + i) + ":" + images[i]);
-        }
-        return x;
-    }
-
     /** Promise 20. */
     private static void imagesAreParsed() {
         AbelianPowers x = new AbelianPowers();
@@ -55,7 +46,7 @@ public final class MorphismTest {
     }
 
     private static void faultLeavesTheImages() {
-        AbelianPowers x = with(3, "abc", "b", "ca");
+        AbelianPowers x = Due.withMorphism(3, "abc", "b", "ca");
         Due.is("a:ccaab", Due.image(x, "a:ccaab"), -106);
         Due.is("a:cx", Due.image(x, "a:cx"), -103);
         Due.is("a:", Due.image(x, "a:"), -102);
@@ -65,11 +56,11 @@ public final class MorphismTest {
     }
 
     private static void lettersOfTheAlphabetAlone() {
-        AbelianPowers x = with(4);
+        AbelianPowers x = Due.withMorphism(4);
         Due.is("d:dcba with four letters", Due.image(x, "d:dcba"), 3);
         Due.is("e:a with four letters", Due.image(x, "e:a"), -100);
         Due.is("a:e with four letters", Due.image(x, "a:e"), -102);
-        x = with(2);
+        x = Due.withMorphism(2);
         Due.is("c:a with two letters", Due.image(x, "c:a"), -100);
         Due.is("a:abc with two letters", Due.image(x, "a:abc"), -104);
         Due.is("b:b with two letters", Due.image(x, "b:b"), 1);
@@ -77,7 +68,7 @@ public final class MorphismTest {
 
     /** Promise 21. */
     private static void lengthsOfImages() {
-        AbelianPowers x = with(3, "abca", "b");
+        AbelianPowers x = Due.withMorphism(3, "abca", "b");
         Due.is("imageLength(0)", x.imageLength(0), 4);
         Due.is("imageLength(1)", x.imageLength(1), 1);
         Due.is("imageLength(2)", x.imageLength(2), 0);
@@ -88,7 +79,7 @@ public final class MorphismTest {
 
     /** Promise 22. */
     private static void wordsAreReplaced() {
-        AbelianPowers x = with(3, "abca", "b");
+        AbelianPowers x = Due.withMorphism(3, "abca", "b");
         Due.is("apply to an empty word", x.apply(0), 0);
         Due.word(x, 0, "aab");
         Due.word(x, 1, "a");
@@ -101,7 +92,7 @@ public final class MorphismTest {
     }
 
     private static void errorsOfApply() {
-        AbelianPowers x = with(3, "abca", "b");
+        AbelianPowers x = Due.withMorphism(3, "abca", "b");
         Due.is("apply(3)", x.apply(3), -1);
         Due.is("apply(-1)", x.apply(-1), -1);
         Due.word(x, 0, "abc");
@@ -117,29 +108,29 @@ public final class MorphismTest {
 
     /** Promise 23. */
     private static void wordsAreIterated() {
-        AbelianPowers x = with(2, "ab", "ba");
+        AbelianPowers x = Due.withMorphism(2, "ab", "ba");
         Due.word(x, 2, "bbb");
         Due.is("iterate(2, 0)", x.iterate(2, 0), 40);
         Due.textIs(x, 2, "abbabaabbaababbabaababbaabbabaabbaababba");
         Due.is("iterate(0, 1)", x.iterate(0, 1), 40);
         Due.textIs(x, 0, "baababbaabbabaababbabaabbaababbaabbabaab");
         Due.is("length(1)", x.length(1), 0);
-        x = with(3, "abc", "ac", "b");
+        x = Due.withMorphism(3, "abc", "ac", "b");
         Due.is("iterate(0, 0)", x.iterate(0, 0), 40);
         Due.textIs(x, 0, "abcacbabcbacabcacbacabcbabcacbabcbacabcb");
-        x = with(2, "ab", "b");
+        x = Due.withMorphism(2, "ab", "b");
         Due.is("a word that grows by one letter", x.iterate(0, 0), 40);
         Due.textIs(x, 0, "abbbbbbbbbbbbbbbbbbbbbbbbbbbbbbbbbbbbbbb");
-        x = with(4, "aaaa", "b", "c", "d");
+        x = Due.withMorphism(4, "aaaa", "b", "c", "d");
         Due.is("a word of one letter", x.iterate(0, 0), 40);
         Due.textIs(x, 0, "aaaaaaaaaaaaaaaaaaaaaaaaaaaaaaaaaaaaaaaa");
-        x = with(3, "abc", "bca", "c");
+        x = Due.withMorphism(3, "abc", "bca", "c");
         Due.is("the last image is cut", x.iterate(0, 0), 40);
         Due.textIs(x, 0, "abcbcacbcacabccbcacabccabcbcaccbcacabcca");
     }
 
     private static void errorsOfIterate() {
-        AbelianPowers x = with(3, "ab", "ba");
+        AbelianPowers x = Due.withMorphism(3, "ab", "ba");
         Due.word(x, 0, "abc");
         Due.is("iterate(3, 0)", x.iterate(3, 0), -1);
         Due.is("iterate(-1, 0)", x.iterate(-1, 0), -1);
@@ -157,27 +148,27 @@ public final class MorphismTest {
 
     /** Promise 24. */
     private static void determinants() {
-        Due.is("no images", with(3).determinant(), Long.MIN_VALUE);
-        Due.is("an image is missing", with(3, "a", "b").determinant(), Long.MIN_VALUE);
+        Due.is("no images", Due.withMorphism(3).determinant(), Long.MIN_VALUE);
+        Due.is("an image is missing", Due.withMorphism(3, "a", "b").determinant(), Long.MIN_VALUE);
         Due.is("the image of the first letter is missing", missingFirst(), Long.MIN_VALUE);
-        Due.is("two letters", with(2, "ab", "aab").determinant(), -1);
-        Due.is("two letters, singular", with(2, "ab", "ba").determinant(), 0);
-        Due.is("two letters exchanged", with(2, "b", "a").determinant(), -1);
-        Due.is("three letters", with(3, "aa", "bb", "cc").determinant(), 8);
-        Due.is("three letters turned", with(3, "b", "c", "a").determinant(), 1);
-        Due.is("three letters, two exchanged", with(3, "a", "c", "b").determinant(), -1);
+        Due.is("two letters", Due.withMorphism(2, "ab", "aab").determinant(), -1);
+        Due.is("two letters, singular", Due.withMorphism(2, "ab", "ba").determinant(), 0);
+        Due.is("two letters exchanged", Due.withMorphism(2, "b", "a").determinant(), -1);
+        Due.is("three letters", Due.withMorphism(3, "aa", "bb", "cc").determinant(), 8);
+        Due.is("three letters turned", Due.withMorphism(3, "b", "c", "a").determinant(), 1);
+        Due.is("three letters, two exchanged", Due.withMorphism(3, "a", "c", "b").determinant(), -1);
         // Columns (1 2 1), (2 0 1), (0 1 2): 1 (0 2 - 1 1) - 2 (2 2 - 1 1) + 0 = -7.
-        Due.is("three letters mixed", with(3, "abbc", "aac", "bcc").determinant(), -7);
-        Due.is("four letters", with(4, "aaaa", "bbbb", "cccc", "dddd").determinant(), 256);
-        Due.is("four letters turned", with(4, "b", "c", "d", "a").determinant(), -1);
+        Due.is("three letters mixed", Due.withMorphism(3, "abbc", "aac", "bcc").determinant(), -7);
+        Due.is("four letters", Due.withMorphism(4, "aaaa", "bbbb", "cccc", "dddd").determinant(), 256);
+        Due.is("four letters turned", Due.withMorphism(4, "b", "c", "d", "a").determinant(), -1);
         // Columns (1 1 1 0), (0 1 1 1), (1 0 1 1), (1 1 0 1): all ones minus a permutation.
-        Due.is("four letters, three each", with(4, "abc", "bcd", "cda", "dab").determinant(), 3);
-        Due.is("four letters, singular", with(4, "ab", "bc", "cd", "da").determinant(), 0);
-        Due.is("columns go by letters, not rows", with(2, "aab", "bbb").determinant(), 6);
+        Due.is("four letters, three each", Due.withMorphism(4, "abc", "bcd", "cda", "dab").determinant(), 3);
+        Due.is("four letters, singular", Due.withMorphism(4, "ab", "bc", "cd", "da").determinant(), 0);
+        Due.is("columns go by letters, not rows", Due.withMorphism(2, "aab", "bbb").determinant(), 6);
     }
 
     private static long missingFirst() {
-        AbelianPowers x = with(2);
+        AbelianPowers x = Due.withMorphism(2);
         Due.image(x, "b:ba");
         return x.determinant();
     }

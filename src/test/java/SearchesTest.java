@@ -13,12 +13,6 @@ public final class SearchesTest {
         Due.end();
     }
 
-    private static AbelianPowers with(String problem) {
-        AbelianPowers x = new AbelianPowers();
-        Due.problem(x, problem);
-        return x;
-    }
-
     /** Promise 16. */
     private static void smallestWords() {
         AbelianPowers x = new AbelianPowers();
@@ -31,18 +25,18 @@ public final class SearchesTest {
         Due.textIs(x, 2, "abacaba");
         Due.is("there is none of 8", x.smallestFree(8, 2), -2);
         Due.is("there is none of 30", x.smallestFree(30, 2), -2);
-        x = with("equal 2 2");
+        x = Due.withProblem("equal 2 2");
         Due.is("squares of two letters: 3", x.smallestFree(3, 1), 4);
         Due.textIs(x, 1, "aba");
         Due.is("squares of two letters: 4", x.smallestFree(4, 1), -2);
-        x = with("equal 3 2");
+        x = Due.withProblem("equal 3 2");
         // Of the letters that are tried, only that of aaa fails.
         Due.is("cubes of two letters: 5", x.smallestFree(5, 1), 6);
         Due.textIs(x, 1, "aabaa");
         // Behind aabaabaa both letters fail, so that the search goes back to aabaab, a letter before the last.
         Due.is("cubes of two letters: 9", x.smallestFree(9, 1), 14);
         Due.textIs(x, 1, "aabaababa");
-        x = with("equal 2 3");
+        x = Due.withProblem("equal 2 3");
         Due.is("squares of three letters: 20", x.smallestFree(20, 0), 41);
         Due.textIs(x, 0, "abacabcacbabcabacabc");
         Due.is("squares of three letters: 30", x.smallestFree(30, 0), 63);
@@ -75,7 +69,7 @@ public final class SearchesTest {
 
     /** Additive cubes of four letters, the values of three or of two of which are the same. */
     private static void limitOfSteps() {
-        AbelianPowers x = with("additive 3 4");
+        AbelianPowers x = Due.withProblem("additive 3 4");
         int[] values = {0, 1, 1, 1};
         for (int i = 0; i < 4; i++) {
             x.setValue(i, values[i]);
@@ -115,7 +109,7 @@ public final class SearchesTest {
     }
 
     private static void counts(String problem, boolean normal, int... due) {
-        AbelianPowers x = with(problem);
+        AbelianPowers x = Due.withProblem(problem);
         for (int n = 0; n < due.length; n++) {
             Due.is(problem + (normal ? ", normal words of " : ", words of ") + n,
                 normal ? x.countNormal(n) : x.countFree(n), due[n]);
@@ -133,16 +127,16 @@ public final class SearchesTest {
 
     /** Promise 19. */
     private static void greatestLengths() {
-        Due.is("abelian 2 2", with("abelian 2 2").longestFree(), 3);
-        Due.is("abelian 2 3", with("abelian 2 3").longestFree(), 7);
-        Due.is("abelian 3 2", with("abelian 3 2").longestFree(), 9);
-        Due.is("abelian 2 4", with("abelian 2 4").longestFree(), -2);
-        Due.is("equal 2 2", with("equal 2 2").longestFree(), 3);
-        Due.is("equal 2 3", with("equal 2 3").longestFree(), -2);
-        Due.is("equal 3 2", with("equal 3 2").longestFree(), -2);
-        Due.is("mixed 2 2", with("mixed 2 2").longestFree(), 3);
-        Due.is("additive 3 2", with("additive 3 2").longestFree(), 9);
-        AbelianPowers x = with("abelian 3 2");
+        Due.is("abelian 2 2", Due.withProblem("abelian 2 2").longestFree(), 3);
+        Due.is("abelian 2 3", Due.withProblem("abelian 2 3").longestFree(), 7);
+        Due.is("abelian 3 2", Due.withProblem("abelian 3 2").longestFree(), 9);
+        Due.is("abelian 2 4", Due.withProblem("abelian 2 4").longestFree(), -2);
+        Due.is("equal 2 2", Due.withProblem("equal 2 2").longestFree(), 3);
+        Due.is("equal 2 3", Due.withProblem("equal 2 3").longestFree(), -2);
+        Due.is("equal 3 2", Due.withProblem("equal 3 2").longestFree(), -2);
+        Due.is("mixed 2 2", Due.withProblem("mixed 2 2").longestFree(), 3);
+        Due.is("additive 3 2", Due.withProblem("additive 3 2").longestFree(), 9);
+        AbelianPowers x = Due.withProblem("abelian 3 2");
         Due.is("9 first", x.longestFree(), 9);
         Due.problem(x, "abelian 2 3");
         Due.is("then 7", x.longestFree(), 7);
@@ -150,7 +144,7 @@ public final class SearchesTest {
     }
 
     private static void searchesDependOnValues() {
-        AbelianPowers x = with("additive 2 3");
+        AbelianPowers x = Due.withProblem("additive 2 3");
         Due.word(x, 0, "abc");
         x.setValue(0, 4);
         x.setValue(1, 4);

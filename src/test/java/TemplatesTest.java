@@ -11,42 +11,29 @@ public final class TemplatesTest {
         Due.end();
     }
 
-    private static AbelianPowers with(int letters, String... images) {
-        AbelianPowers x = new AbelianPowers();
-        Due.problem(x, "abelian 2 " + letters);
-        morphism(x, images);
-        return x;
-    }
-
-    private static void morphism(AbelianPowers x, String... images) {
-        for (int i = 0; i < images.length; i++) {
-            Due.image(x, (char) ('a' + i) + ":" + images[i]);
-        }
-    }
-
     /** Promise 25. */
     private static void errorsOfTheClosure() {
-        Due.is("no images", with(3).computeClosure(), -6);
-        Due.is("an image is missing", with(3, "a", "b").computeClosure(), -6);
-        Due.is("singular", with(2, "ab", "ba").computeClosure(), -8);
-        Due.is("singular, four letters", with(4, "ab", "bc", "cd", "da").computeClosure(), -8);
-        Due.is("three letters", with(3, "a", "b", "c").computeClosure(), -4);
-        Due.is("four letters", with(4, "aaaa", "bbbb", "cccc", "dddd").computeClosure(), -4);
+        Due.is("no images", Due.withMorphism(3).computeClosure(), -6);
+        Due.is("an image is missing", Due.withMorphism(3, "a", "b").computeClosure(), -6);
+        Due.is("singular", Due.withMorphism(2, "ab", "ba").computeClosure(), -8);
+        Due.is("singular, four letters", Due.withMorphism(4, "ab", "bc", "cd", "da").computeClosure(), -8);
+        Due.is("three letters", Due.withMorphism(3, "a", "b", "c").computeClosure(), -4);
+        Due.is("four letters", Due.withMorphism(4, "aaaa", "bbbb", "cccc", "dddd").computeClosure(), -4);
     }
 
     /** The sizes are those of NaivePowers; that of the identity was counted by hand as well. */
     private static void sizesOfClosures() {
-        Due.is("a, b", with(2, "a", "b").computeClosure(), 113);
-        Due.is("aaa, babb", with(2, "aaa", "babb").computeClosure(), 114);
-        Due.is("aaaa, b", with(2, "aaaa", "b").computeClosure(), 121);
-        Due.is("b, aa", with(2, "b", "aa").computeClosure(), 129);
-        Due.is("aaab, bbba", with(2, "aaab", "bbba").computeClosure(), 143);
-        Due.is("aa, baab", with(2, "aa", "baab").computeClosure(), 167);
-        Due.is("baab, aa", with(2, "baab", "aa").computeClosure(), 199);
-        Due.is("200 templates are not too many", with(2, "abb", "aaab").computeClosure(), 200);
-        Due.is("202 templates are too many", with(2, "aab", "babb").computeClosure(), -4);
-        Due.is("1216 templates are too many", with(2, "abb", "aabb").computeClosure(), -4);
-        AbelianPowers x = with(2, "a", "b");
+        Due.is("a, b", Due.withMorphism(2, "a", "b").computeClosure(), 113);
+        Due.is("aaa, babb", Due.withMorphism(2, "aaa", "babb").computeClosure(), 114);
+        Due.is("aaaa, b", Due.withMorphism(2, "aaaa", "b").computeClosure(), 121);
+        Due.is("b, aa", Due.withMorphism(2, "b", "aa").computeClosure(), 129);
+        Due.is("aaab, bbba", Due.withMorphism(2, "aaab", "bbba").computeClosure(), 143);
+        Due.is("aa, baab", Due.withMorphism(2, "aa", "baab").computeClosure(), 167);
+        Due.is("baab, aa", Due.withMorphism(2, "baab", "aa").computeClosure(), 199);
+        Due.is("200 templates are not too many", Due.withMorphism(2, "abb", "aaab").computeClosure(), 200);
+        Due.is("202 templates are too many", Due.withMorphism(2, "aab", "babb").computeClosure(), -4);
+        Due.is("1216 templates are too many", Due.withMorphism(2, "abb", "aabb").computeClosure(), -4);
+        AbelianPowers x = Due.withMorphism(2, "a", "b");
         Due.problem(x, "mixed 4 2");
         Due.is("kind and exponent do not matter", x.computeClosure(), 113);
     }
@@ -59,7 +46,7 @@ public final class TemplatesTest {
 
     /** Promise 26: the ends, -1 for an empty one, and the numbers. */
     private static void templatesOfTheIdentity() {
-        AbelianPowers x = with(2, "a", "b");
+        AbelianPowers x = Due.withMorphism(2, "a", "b");
         x.computeClosure();
         isTemplate(x, 0, -1, -1, -1, 0, 0);
         isTemplate(x, 1, -1, -1, 0, -1, 0);
@@ -84,7 +71,7 @@ public final class TemplatesTest {
     }
 
     private static void wrongNumbersOfTemplates() {
-        AbelianPowers x = with(2, "a", "b");
+        AbelianPowers x = Due.withMorphism(2, "a", "b");
         Due.is("no closure: template(0, 0)", x.template(0, 0), -2);
         Due.is("no closure goes before a wrong part", x.template(0, 99), -2);
         x.computeClosure();
@@ -100,12 +87,12 @@ public final class TemplatesTest {
     }
 
     private static void closureIsRemembered() {
-        AbelianPowers x = with(2, "a", "b");
+        AbelianPowers x = Due.withMorphism(2, "a", "b");
         x.computeClosure();
-        morphism(x, "ab", "ba");
+        Due.morphism(x, "ab", "ba");
         Due.is("singular", x.computeClosure(), -8);
         isTemplate(x, 112, 1, 1, 1, 0, 2);
-        morphism(x, "abb", "aabb");
+        Due.morphism(x, "abb", "aabb");
         Due.is("too many", x.computeClosure(), -4);
         isTemplate(x, 6, -1, 0, -1, 1, 0);
         isTemplate(x, 112, 1, 1, 1, 0, 2);
@@ -114,19 +101,19 @@ public final class TemplatesTest {
         Due.is("missing images", x.computeClosure(), -6);
         isTemplate(x, 112, 1, 1, 1, 0, 2);
         Due.is("the letters are those of the computation", x.template(112, 5), -1);
-        morphism(x, "a", "b", "c");
+        Due.morphism(x, "a", "b", "c");
         Due.is("too many with three letters", x.computeClosure(), -4);
         isTemplate(x, 112, 1, 1, 1, 0, 2);
         Due.is("the letters still are", x.template(112, 5), -1);
         x.saveSnapshot();
         Due.problem(x, "abelian 2 2");
-        morphism(x, "abb", "aaab");
+        Due.morphism(x, "abb", "aaab");
         Due.is("another closure", x.computeClosure(), 200);
         Due.is("has more templates", x.template(199, 0) > 0 ? 1 : 0, 1);
         x.restoreSnapshot();
         Due.is("a snapshot has no closure", x.template(199, 0) > 0 ? 1 : 0, 1);
         Due.problem(x, "abelian 2 2");
-        morphism(x, "b", "aa");
+        Due.morphism(x, "b", "aa");
         Due.is("a smaller closure", x.computeClosure(), 129);
         Due.is("takes the place of the greater one", x.template(129, 0), -2);
     }
@@ -138,7 +125,7 @@ public final class TemplatesTest {
 
     /** Promise 27, with templates of templatesOfTheIdentity. */
     private static void occurrencesOfTemplates() {
-        AbelianPowers x = with(2, "a", "b");
+        AbelianPowers x = Due.withMorphism(2, "a", "b");
         x.computeClosure();
         Due.is("square in an empty word", occurrence(x, "", 0), -2);
         Due.is("square in aba", occurrence(x, "aba", 0), -2);
@@ -187,7 +174,7 @@ public final class TemplatesTest {
     }
 
     private static void errorsOfOccurrences() {
-        AbelianPowers x = with(2, "a", "b");
+        AbelianPowers x = Due.withMorphism(2, "a", "b");
         Due.word(x, 0, "aa");
         Due.is("no closure", x.occurrence(0, 0), -2);
         Due.is("no register goes before no closure", x.occurrence(3, 0), -1);
