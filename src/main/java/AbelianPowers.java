@@ -776,7 +776,7 @@ public final class AbelianPowers {
 
         /** The length of the blocks of the shortest power that ends with the word, 0 if there is none. */
         int shortestPowerAtEnd() {
-            for (int block = 1; block * exponent <= size; block++) {
+            for (int block = 1; block <= size && block * exponent <= size; block++) {
                 if (isPowerAtEnd(block)) {
                     return block;
                 }
@@ -786,7 +786,7 @@ public final class AbelianPowers {
 
         int powersAtEnd() {
             int count = 0;
-            for (int block = 1; block * exponent <= size; block++) {
+            for (int block = 1; block <= size && block * exponent <= size; block++) {
                 if (isPowerAtEnd(block)) {
                     count++;
                 }
@@ -1201,7 +1201,7 @@ public final class AbelianPowers {
         private int placeOf(int key) {
             int low = 0;
             int high = foundSize;
-            while (low < high) {
+            for (int turn = 0; turn < MAX_TEMPLATES && low < high; turn++) {
                 int middle = (low + high) / 2;
                 if (ordered[middle] < key) {
                     low = middle + 1;

@@ -205,6 +205,10 @@ final class DescriptionSentences {
         Due.is("abab and baba: ab twice, then once", with("mixed 2 4", "ababbaba").equivalent(0, 0, 4, 4), 0);
         Due.is("abacab and acabab: other orders of ab, ac", with("mixed 2 4", "abacabacabab").equivalent(0, 0, 6, 6), 1);
         Due.is("dcdbd and dbdcd", with("mixed 2 4", "dcdbddbdcd").equivalent(0, 0, 5, 5), 1);
+        // aa twice, ab and bb, or ab and ba twice: were pairs counted together, 2 + 2 + 32 would be 4 + 32.
+        Due.is("aaabb and ababa", with("mixed 2 4", "aaabbababa").equivalent(0, 0, 5, 5), 0);
+        Due.is("cccdd and cdcdc", with("mixed 2 4", "cccddcdcdc").equivalent(0, 0, 5, 5), 0);
+        Due.is("abca and acba: the pairs turned round", with("mixed 2 4", "abcaacba").equivalent(0, 0, 4, 4), 0);
         // The pair that leads into a block, and the one that leads out of it, are not within it.
         Due.is("b in abc and cba", with("mixed 2 4", "abccba").equivalent(0, 1, 4, 1), 1);
         Due.is("bd in abda and cbdc", with("mixed 2 4", "abdacbdc").equivalent(0, 1, 5, 2), 1);

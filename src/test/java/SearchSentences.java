@@ -247,6 +247,12 @@ final class SearchSentences {
             x.setValue(1, 0);
             Due.is("powers of letters with one value", x.longestFree(), e - 1);
         }
+        AbelianPowers x = Due.withProblem("equal 2 3");
+        Due.is("words of 12 letters", x.longestFree(), -2);
+        Due.problem(x, "abelian 2 3");
+        Due.is("what was reached before does not matter", x.longestFree(), 7);
+        Due.problem(x, "abelian 2 2");
+        Due.is("nor what was reached then", x.longestFree(), 3);
     }
 
     private static void wordsOfTwelveLetters() {

@@ -436,8 +436,13 @@ final class WordsSentences {
         Due.is("a full word, squares", x.extensions(0), 7);
         Due.textIs(x, 0, SQUARE_FREE_39 + "d");
         Due.is("its length", x.length(0), 40);
-        x = with("abelian 4 4", "aaabbbcccddd".repeat(3) + "abbb");
-        Due.is("a full word, fourth powers", x.extensions(0), 15 - 2);
+        for (String kind : new String[] {"equal", "abelian", "additive", "mixed"}) {
+            x = with(kind + " 4 4", "aaabbbcccddd".repeat(3) + "abbb");
+            // Values with which the word is free for the kind additive, too.
+            x.setValue(2, 5);
+            x.setValue(3, -7);
+            Due.is(kind + ": a full word, fourth powers", x.extensions(0), 15 - 2);
+        }
         Due.is("its length", x.length(0), 40);
     }
 
