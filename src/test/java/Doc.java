@@ -51,6 +51,35 @@ final class Doc {
         });
     }
 
+    static boolean isThere() {
+        return !SENTENCES.isEmpty();
+    }
+
+    /** The examples of the description, each its name, a colon, and calls with their answers. */
+    static List<String> examples() {
+        List<String> examples = new ArrayList<>();
+        for (String paragraph : text().split("\\n\\s*\\n")) {
+            if (paragraph.startsWith("  ")) {
+                examples.add(paragraph.strip().replaceAll("\\s+", " "));
+            }
+        }
+        return examples;
+    }
+
+    /** The lines of the public face, between those that open and close the class. */
+    static List<String> face() {
+        List<String> lines = new ArrayList<>();
+        boolean inside = false;
+        for (String line : text().split("\\n")) {
+            if (line.startsWith("```")) {
+                inside = line.equals("```java");
+            } else if (inside && line.startsWith("    ")) {
+                lines.add(line.strip());
+            }
+        }
+        return lines;
+    }
+
     private static boolean isNamed(String sentence, List<String> named) {
         boolean[] covered = new boolean[sentence.length()];
         for (String part : named) {

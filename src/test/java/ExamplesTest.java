@@ -1,4 +1,7 @@
-/** The examples at the end of the document's description, each with a new object. */
+/**
+ * The examples at the end of the document's description, each with a new object: as they are written here, and as they
+ * are read from the document.
+ */
 public final class ExamplesTest {
     public static void main(String[] args) {
         abelianSquare();
@@ -6,7 +9,26 @@ public final class ExamplesTest {
         letterTooMany();
         extensionsOfAb();
         missingImage();
+        asTheDocumentWritesThem();
         Due.end();
+    }
+
+    private static void asTheDocumentWritesThem() {
+        if (!Doc.isThere()) {
+            return;
+        }
+        int examples = 0;
+        for (String example : Doc.examples()) {
+            Due.about(example.replaceAll(":.*", ""));
+            AbelianPowers x = new AbelianPowers();
+            for (String row : example.replaceAll("^[^:]*: |\\.$", "").split("; ")) {
+                String[] sides = row.split(" = ");
+                Calls.due(x, sides[0], sides.length == 2 ? sides[1] : "nothing");
+            }
+            examples++;
+        }
+        Due.about("");
+        Due.is("the examples of the document", examples, 5);
     }
 
     private static void abelianSquare() {

@@ -5,6 +5,8 @@ import java.lang.reflect.Method;
 import java.lang.reflect.Modifier;
 import java.nio.file.Files;
 import java.nio.file.Path;
+import java.util.ArrayList;
+import java.util.List;
 import java.util.Set;
 import java.util.TreeSet;
 import java.util.regex.Matcher;
@@ -38,6 +40,7 @@ public final class FaceTest {
         Due.that("one public constructor without parameters", constructors.length == 1
             && Modifier.isPublic(constructors[0].getModifiers()) && constructors[0].getParameterCount() == 0);
         classesInside(face);
+        asTheDocumentWritesIt();
         text();
         Due.end();
     }
@@ -83,6 +86,26 @@ public final class FaceTest {
             Due.that(field + " is static, not final", !Modifier.isStatic(modifiers) || Modifier.isFinal(modifiers));
         }
         Due.that("the constants are " + open, open.equals(Set.of(CONSTANTS)));
+    }
+
+    /** The face that the tests above ask for is the document's, line by line and in its order. */
+    private static void asTheDocumentWritesIt() {
+        if (!Doc.isThere()) {
+            return;
+        }
+        List<String> due = new ArrayList<>();
+        for (String constant : CONSTANTS) {
+            due.add("public static final int " + constant.replace("=", " = ") + ";");
+        }
+        due.add("public AbelianPowers();");
+        for (String method : METHODS) {
+            due.add("public " + method + ";");
+        }
+        List<String> found = new ArrayList<>();
+        for (String line : Doc.face()) {
+            found.add(line.replaceAll("(int|long) \\w+(?=[,)])", "$1").replace(", ", ","));
+        }
+        Due.same("the face of the document", found.toString(), due.toString());
     }
 
     private static void classesInside(Class<?> face) {
